@@ -15,7 +15,7 @@ public final class SuffixRows {
     private static final int MOST_IN_PATTERN = 40;
     private static final int GREATEST_DISTANCE = 64;
 
-    /** An END's letter is its text's number and a sign's is moved up by TEXTS: so letters compare as the document asks. */
+    /** An END's letter is its text's number, a sign's is moved up by TEXTS: so letters compare as the document asks. */
     private static final int LETTERS = TEXTS + GREATEST_SIGN + 1;
 
     private final Texts texts;
@@ -316,7 +316,7 @@ public final class SuffixRows {
             return p == 0 ? size - 1 : p - 1;
         }
 
-        /** COMMON of two different places that are known to be alike for some signs; no END is alike another, so it stops there. */
+        /** COMMON of two different places, of which so many signs are known; an END is like no other, so it stops. */
         int alikeFrom(int p, int q, int known) {
             int alike = known;
             while (p + alike < size && q + alike < size && letters[p + alike] == letters[q + alike]) {
@@ -574,14 +574,20 @@ public final class SuffixRows {
 
         private void putFirst(int level, int p) {
             int letter = letters[bases[level] + p];
-            order[cursors[letter]] = p;
-            cursors[letter]++;
+            int slot = cursors[letter];
+            if (slot < order.length) {
+                order[slot] = p;
+                cursors[letter] = slot + 1;
+            }
         }
 
         private void putLast(int level, int p) {
             int letter = letters[bases[level] + p];
-            cursors[letter]--;
-            order[cursors[letter]] = p;
+            int slot = cursors[letter] - 1;
+            if (slot >= 0) {
+                order[slot] = p;
+                cursors[letter] = slot;
+            }
         }
     }
 
@@ -645,7 +651,7 @@ public final class SuffixRows {
             }
         }
 
-        /** From copy to copy as long as they are long enough; each is before the last, and those before p are the least already. */
+        /** From copy to copy while they are long enough: the last one has no such copy before it, so is the least. */
         private int leastLike(int p) {
             int least = places[p];
             for (int hops = 0; hops < p && least != NONE && lengths[least] >= lengths[p]; hops++) {
@@ -656,7 +662,8 @@ public final class SuffixRows {
 
         private void countPieces() {
             for (int p = whole.size - 1; p >= 0; p--) {
-                pieces[p] = whole.isEnd(p) ? 0 : 1 + pieces[p + Math.max(1, lengths[p])];
+                int next = p + Math.max(1, lengths[p]);
+                pieces[p] = whole.isEnd(p) || next >= whole.size ? 0 : 1 + pieces[next];
             }
         }
     }
