@@ -54,6 +54,7 @@ public final class Promises {
         promise23();
         promise24();
         promise25();
+        fullWhole();
         System.out.println(calls + " answers looked at, " + wrong + " not as due");
         if (wrong != 0) {
             System.exit(1);
@@ -655,5 +656,42 @@ public final class Promises {
         x.build();
         x.tell(4, 1);
         due("one too great: the next is wrong", x.judge(), 5);
+    }
+
+    /** All 408 places: the last index, and the first that is none, of every call that takes one. */
+    private static void fullWhole() {
+        SuffixRows x = new SuffixRows();
+        for (int k = 0; k < 400; k += 4) {
+            x.add(k / 50, k, k + 1, k + 2, k + 3);
+        }
+        promise = 4;
+        due("build of 408", x.build(), 408);
+        promise = 14;
+        dueFind(x, "the empty pattern in 408", new int[] {408, 0, 8, 0, 407, 0});
+        x.pattern(999, NONE, NONE, NONE);
+        dueFind(x, "a sign greater than all 408", new int[] {0, 408, 0, NONE, NONE, 0});
+        x.wipe();
+        x.pattern(396, 397, 398, 399);
+        dueFind(x, "the last signs of 408", new int[] {1, 404, 1, 403, 403, 4});
+        x.pattern(0, NONE, NONE, NONE);
+        dueFind(x, "more than the last signs of 408", new int[] {0, 405, 0, NONE, NONE, 4});
+        x.wipe();
+        int[] last = {x.sign(407), x.text(407, 0), x.at(407), x.rank(407), x.beside(407), x.common(407, 407),
+            x.copy(407, 2), x.where(407), x.before(407), x.back(407), x.steps(407, 64), x.swap(407, 407),
+            x.tell(407, 406)};
+        int[] due = {-9, 7, 406, 7, 0, 0, 0, 407, 398, 406, 406 % 64, 1, 406};
+        int[] beyond = {x.sign(408), x.text(408, 0), x.at(408), x.rank(408), x.beside(408), x.common(408, 408),
+            x.copy(408, 2), x.where(408), x.before(408), x.back(408), x.steps(408, 64), x.swap(408, 408),
+            x.tell(408, 407)};
+        int[] promises = {5, 6, 7, 8, 9, 10, 11, 15, 20, 21, 22, 23, 24};
+        for (int k = 0; k < promises.length; k++) {
+            promise = promises[k];
+            due("the last index of 408", last[k], due[k]);
+            due("the index 408", beyond[k], NONE);
+        }
+        promise = 25;
+        due("judge of 408", x.judge(), 408);
+        due("tell a number of none", x.tell(407, 408), 406);
+        due("judge of the last of 408", x.judge(), 407);
     }
 }
