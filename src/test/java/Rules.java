@@ -113,7 +113,8 @@ public final class Rules {
     }
 
     private static void source(List<String> lines) {
-        Pattern banned = Pattern.compile("\\b(throw|throws|try|catch|synchronized|assert|package|Exact|var)\\b|->|::|\"");
+        Pattern banned = Pattern.compile(
+            "\\b(throw|throws|try|catch|synchronized|assert|package|Exact|var)\\b|->|::|\"");
         int methodStart = -1;
         for (int n = 0; n < lines.size(); n++) {
             String line = lines.get(n);
@@ -121,7 +122,8 @@ public final class Rules {
             String place = "line " + (n + 1) + ": " + line.trim();
             look(line.length() <= 120, "too long, " + place);
             look(isComment || !banned.matcher(line).find(), "not in the language, " + place);
-            look(!line.startsWith("import ") || line.equals("import java.util.Arrays;"), "not in the library, " + place);
+            boolean isImport = line.startsWith("import ");
+            look(!isImport || line.equals("import java.util.Arrays;"), "not in the library, " + place);
             boolean makes = !isComment && line.matches(".*\\bnew\\b.*");
             look(!makes || isMadeWithTheObject(line), "made by a call, " + place);
             if (line.matches(" {4}( {4})?\\w.*\\) \\{")) {

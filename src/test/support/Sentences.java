@@ -1,0 +1,42 @@
+/** Runs tests that are of one sentence of the document each, and counts the answers that are not as due. */
+final class Sentences {
+    private static int sentences = 0;
+    private static int answers = 0;
+    private static int wrong = 0;
+    private static String sentence = "";
+
+    private Sentences() {
+    }
+
+    /** A call that throws is a wrong answer to its sentence alone: the other sentences are still looked at. */
+    static void of(String words, Runnable test) {
+        sentences++;
+        sentence = words;
+        try {
+            test.run();
+        } catch (RuntimeException | StackOverflowError thrown) {
+            fault("threw " + thrown + " in " + thrown.getStackTrace()[0]);
+        }
+    }
+
+    static void due(String call, long got, long want) {
+        answers++;
+        if (got != want) {
+            fault(call + " answered " + got + ", due is " + want);
+        }
+    }
+
+    private static void fault(String told) {
+        wrong++;
+        if (wrong <= 40) {
+            System.out.println("\"" + sentence + "\": " + told);
+        }
+    }
+
+    static void close() {
+        System.out.println(sentences + " sentences, " + answers + " answers looked at, " + wrong + " not as due");
+        if (wrong != 0) {
+            System.exit(1);
+        }
+    }
+}
