@@ -37,8 +37,9 @@ public final class BoundsOfDraft {
     private static void beforeZero() {
         for (int text = 0; text < 8; text++) {
             new Run().text(text, 4).due(2, "build").due(-2 - text, "before", 1).due(4, "before", 0);
-            new Run().text(0, 4).text(text == 0 ? 1 : text, 5).due(4, "build")
-                .due(text == 0 ? -3 : -2 - text, "before", 2).due(-2, "before", 3);
+        }
+        for (int text = 1; text < 8; text++) {
+            new Run().text(0, 4).text(text, 5).due(4, "build").due(-2 - text, "before", 2).due(-2, "before", 3);
         }
         Run.alike(400).due(401, "build").due(-2, "before", 400).due(5, "before", 0).due(5, "before", 399);
         Run.eightFull().due(408, "build").due(-9, "before", 8).due(49, "before", 0).due(399, "before", 7);

@@ -45,6 +45,7 @@ public final class BoundsOfTerms {
         Sentences.of("WRONG: not PLACES", BoundsOfTerms::draftNotPlaces);
         Sentences.of("WRONG: not each once", BoundsOfTerms::draftNotOnce);
         Sentences.of("WRONG: not rising", BoundsOfTerms::draftNotRising);
+        Sentences.of("Nothing beyond the state changes described: asking changes nothing", BoundsOfTerms::asking);
         Sentences.close();
     }
 
@@ -427,5 +428,19 @@ public final class BoundsOfTerms {
             Run.twoTexts().due(ROW_OF_TWO_TEXTS[i], "tell", i, ROW_OF_TWO_TEXTS[i - 1]).due(i, "judge");
         }
         Run.twoTexts().due(2, "tell", 4, 0).due(5, "judge");
+    }
+
+    private static void asking() {
+        EnumSet<Run.Part> all = EnumSet.allOf(Run.Part.class);
+        Run.busy().dueAndKeeps(all, 5, "sign", 0).dueAndKeeps(all, 4, "text", 6, 0).dueAndKeeps(all, 1, "text", 7, 1)
+            .dueAndKeeps(all, 5, "at", 0).dueAndKeeps(all, 8, "rank", 1).dueAndKeeps(all, 3, "beside", 5)
+            .dueAndKeeps(all, 3, "common", 0, 2).dueAndKeeps(all, 5, "common", 0, 0).dueAndKeeps(all, 0, "copy", 2, 0)
+            .dueAndKeeps(all, 3, "copy", 2, 1).dueAndKeeps(all, 3, "copy", 0, 2).dueAndKeeps(all, 3, "find", 0)
+            .dueAndKeeps(all, 6, "find", 1).dueAndKeeps(all, 2, "find", 2).dueAndKeeps(all, 1, "find", 3)
+            .dueAndKeeps(all, 6, "find", 4).dueAndKeeps(all, 2, "find", 5).dueAndKeeps(all, 3, "where", 1)
+            .dueAndKeeps(all, 9, "different").dueAndKeeps(all, 2, "repeats", 2, 2).dueAndKeeps(all, 3, "longest", 2, 0)
+            .dueAndKeeps(all, 0, "longest", 2, 1).dueAndKeeps(all, 2, "longest", 2, 2)
+            .dueAndKeeps(all, 2, "shared", 2, 0).dueAndKeeps(all, 2, "shared", 2, 3).dueAndKeeps(all, -6, "before", 5).dueAndKeeps(all, 1, "back", 5)
+            .dueAndKeeps(all, 2, "steps", 0, 3).dueAndKeeps(all, 4, "judge");
     }
 }

@@ -1,15 +1,19 @@
 /** Runs tests that are of one sentence of the document each, and counts the answers that are not as due. */
 final class Sentences {
+    private static final int LONGEST_SECONDS = 300;
     private static int sentences = 0;
     private static int answers = 0;
     private static int wrong = 0;
-    private static String sentence = "";
+    private static volatile String sentence = "";
 
     private Sentences() {
     }
 
     /** A call that throws is a wrong answer to its sentence alone: the other sentences are still looked at. */
     static void of(String words, Runnable test) {
+        if (sentences == 0) {
+            watch();
+        }
         sentences++;
         sentence = words;
         try {
@@ -17,6 +21,21 @@ final class Sentences {
         } catch (RuntimeException | StackOverflowError thrown) {
             fault("threw " + thrown + " in " + thrown.getStackTrace()[0]);
         }
+    }
+
+    /** A call that does not end is a fault as well, and nothing else would come to tell it. */
+    private static void watch() {
+        Thread watcher = new Thread(() -> {
+            try {
+                Thread.sleep(1000L * LONGEST_SECONDS);
+            } catch (InterruptedException stopped) {
+                return;
+            }
+            System.out.println("\"" + sentence + "\": no end within " + LONGEST_SECONDS + " seconds");
+            Runtime.getRuntime().halt(1);
+        });
+        watcher.setDaemon(true);
+        watcher.start();
     }
 
     static void due(String call, long got, long want) {
