@@ -440,7 +440,8 @@ public final class BoundsOfTerms {
             .dueAndKeeps(all, 6, "find", 4).dueAndKeeps(all, 2, "find", 5).dueAndKeeps(all, 3, "where", 1)
             .dueAndKeeps(all, 9, "different").dueAndKeeps(all, 2, "repeats", 2, 2).dueAndKeeps(all, 3, "longest", 2, 0)
             .dueAndKeeps(all, 0, "longest", 2, 1).dueAndKeeps(all, 2, "longest", 2, 2)
-            .dueAndKeeps(all, 2, "shared", 2, 0).dueAndKeeps(all, 2, "shared", 2, 3).dueAndKeeps(all, -6, "before", 5).dueAndKeeps(all, 1, "back", 5)
-            .dueAndKeeps(all, 2, "steps", 0, 3).dueAndKeeps(all, 4, "judge");
+            .dueAndKeeps(all, 2, "shared", 2, 0).dueAndKeeps(all, 2, "shared", 2, 3)
+            .dueAndKeeps(all, -6, "before", 5).dueAndKeeps(all, 1, "back", 5).dueAndKeeps(all, 2, "steps", 0, 3)
+            .dueAndKeeps(all, 4, "judge");
     }
 }
