@@ -179,6 +179,8 @@ public final class BoundsOfPattern {
         Run.twoTexts().due(0, "find", 5);
         seekingInTwoTexts(4).due(0, "find", 5);
         seekingInTwoTexts(999).due(0, "find", 5);
+        seeking(Run.eightFull().due(408, "build"), 999).due(0, "find", 5);
+        seeking(Run.eightFull().due(408, "build"), 399, 0).due(1, "find", 5).due(408, "find", 1);
         seekingInTwoTexts(5).due(1, "find", 5);
         seekingInTwoTexts(5, 4).due(1, "find", 5);
         seekingInTwoTexts(5, 7).due(1, "find", 5);

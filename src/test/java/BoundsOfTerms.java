@@ -22,6 +22,7 @@ public final class BoundsOfTerms {
         Sentences.of("no two ENDS are alike", BoundsOfTerms::endsNotAlike);
         Sentences.of("THE SUFFIX goes to the next END, it too", BoundsOfTerms::suffixToEnd);
         Sentences.of("that one is less that has the lesser one where they first differ", BoundsOfTerms::firstDiffer);
+        Sentences.of("where they first differ, as late as that can be", BoundsOfTerms::differLate);
         Sentences.of("THE ROW has all PLACES (ENDS first)", BoundsOfTerms::rowHasAll);
         Sentences.of("COMMON of a PLACE with itself: all to its END", BoundsOfTerms::commonWithItself);
         Sentences.of("A STRETCH is a row of 1 or more SIGNS", BoundsOfTerms::stretchOfOne);
@@ -217,6 +218,29 @@ public final class BoundsOfTerms {
         new Run().text(0, 1, 999).text(1, 2, 0).due(6, "build").dueFromZero("at", new int[] {2, 5, 4, 0, 3, 1});
         new Run().text(3, 8, 8).text(5, 8).due(5, "build").dueFromZero("at", new int[] {2, 4, 1, 3, 0});
         new Run().text(3, 8).text(5, 8, 8).due(5, "build").dueFromZero("at", new int[] {1, 4, 0, 3, 2});
+    }
+
+    /** Both texts are 1 2 1 2 .., then comes 0 in the first and 3 in the second. */
+    private static void differLate() {
+        int[] less = new int[199];
+        int[] greater = new int[199];
+        for (int k = 0; k < 198; k++) {
+            less[k] = 1 + k % 2;
+            greater[k] = 1 + k % 2;
+        }
+        greater[198] = 3;
+        int[] row = new int[400];
+        row[0] = 199;
+        row[1] = 399;
+        row[2] = 198;
+        for (int k = 0; k < 99; k++) {
+            row[3 + k] = 196 - 2 * k;
+            row[102 + k] = 200 + 2 * k;
+            row[201 + k] = 197 - 2 * k;
+            row[300 + k] = 201 + 2 * k;
+        }
+        row[399] = 398;
+        new Run().text(0, less).text(1, greater).due(400, "build").dueFromZero("at", row).due(198, "common", 0, 200);
     }
 
     private static void rowHasAll() {
