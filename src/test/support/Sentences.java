@@ -1,4 +1,4 @@
-/** Runs tests that are of one sentence of the document each, and counts the answers that are not as due. */
+/** Runs tests that are of one sentence (of the document, of README.md) each, and counts what is not as due. */
 final class Sentences {
     private static final int LONGEST_SECONDS = 300;
     private static int sentences = 0;
@@ -42,6 +42,13 @@ final class Sentences {
         answers++;
         if (got != want) {
             fault(call + " answered " + got + ", due is " + want);
+        }
+    }
+
+    static void holds(String fact, boolean isSo) {
+        answers++;
+        if (!isSo) {
+            fault("not so: " + fact);
         }
     }
 
